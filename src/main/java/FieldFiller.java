@@ -477,6 +477,11 @@ public final class FieldFiller {
             return (cells & bit(cell)) != 0;
         }
 
+        /** Returns the set of the lowest cell of a set; an empty one has none. */
+        private static int lowest(int cells) {
+            return cells & -cells;
+        }
+
         private int cellCount() {
             return Integer.bitCount(allCells);
         }
@@ -562,7 +567,7 @@ public final class FieldFiller {
             int ground = cellsWith(number);
             int left = ground;
             for (int i = 0; i < MOST_CELLS && left != 0; i++) {
-                int field = spread(Integer.lowestOneBit(left), ground, MOST_CELLS);
+                int field = spread(lowest(left), ground, MOST_CELLS);
                 if (Integer.bitCount(field) > number) {
                     return true;
                 }
@@ -576,7 +581,7 @@ public final class FieldFiller {
             int left = cellsWith(number);
             for (int i = 0; i < MOST_CELLS && left != 0; i++) {
                 // All fields with the number that lie in one room have that room.
-                int room = spread(Integer.lowestOneBit(left), ground, MOST_CELLS);
+                int room = spread(lowest(left), ground, MOST_CELLS);
                 if (Integer.bitCount(room) < number) {
                     return true;
                 }
@@ -620,7 +625,7 @@ public final class FieldFiller {
             for (int number = 1; number <= HIGHEST_NUMBER; number++) {
                 int left = cellsWith(number);
                 for (int i = 0; i < MOST_CELLS && left != 0; i++) {
-                    int field = spread(Integer.lowestOneBit(left), cellsWith(number), MOST_CELLS);
+                    int field = spread(lowest(left), cellsWith(number), MOST_CELLS);
                     reached |= spread(field, emptyCells(), number - Integer.bitCount(field));
                     left &= ~field;
                 }
@@ -632,7 +637,7 @@ public final class FieldFiller {
         private boolean isShape(int cells, int number) {
             return Integer.bitCount(cells) == number
                     && (beside(cells) & ~cells & cellsWith(number)) == 0
-                    && spread(Integer.lowestOneBit(cells), cells, MOST_CELLS) == cells;
+                    && spread(lowest(cells), cells, MOST_CELLS) == cells;
         }
     }
 
@@ -648,7 +653,8 @@ public final class FieldFiller {
 
         private Shapes() {
             countWith = new int[MOST_CELLS];
-            forget();
+            count = 0;
+            cellsOfAll = 0;
         }
 
         private void forget() {

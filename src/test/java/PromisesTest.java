@@ -355,6 +355,10 @@ final class PromisesTest {
         // Both corners must grow: the cell with the lower number is filled, whichever the field is.
         FieldFiller x = board(3, 3, 0, 2, 3, 1, 8, 2, 7, 1);
         due("run(1) lowest cell first", x.run(1), 12);
+        FieldFiller filled = board(3, 3);
+        filled.fill(0, 2);
+        filled.fill(3, 1);
+        due("run(1) of a filled field", filled.run(1), 12);
         due("run(1) then the other", x.run(1), 52);
         // The field of the cell 1 comes before that of the cell 6, but its cell to fill, 4, does not come before 3.
         due("run(1) by cells, not by fields", board(3, 3, 0, 1, 1, 3, 2, 1, 6, 2, 7, 1).run(1), 32);
@@ -449,6 +453,9 @@ final class PromisesTest {
         due("size of one", x.size(3), 1);
         due("size of a field apart", x.size(8), 1);
         due("size of an empty cell", x.size(4), 0);
+        x.fill(2, 4);
+        due("size with a filled cell", x.size(0), 3);
+        due("size of a filled cell", x.size(2), 3);
         for (int cell : NO_CELLS) {
             refuses("size(" + cell + ")", x, NO_CELL, () -> x.size(cell));
         }
@@ -467,6 +474,9 @@ final class PromisesTest {
         due("room of a full field", x.room(1), 7);
         due("room over another field of the number", board(2, 4, 0, 5, 2, 5, 7, 5).room(0), 8);
         due("room of an empty cell", x.room(8), 0);
+        x.fill(5, 1);
+        due("room beside a filled cell", x.room(7), 4);
+        due("room of a filled cell", x.room(5), 3);
         for (int cell : NO_CELLS) {
             refuses("room(" + cell + ")", x, NO_CELL, () -> x.room(cell));
         }
@@ -482,6 +492,11 @@ final class PromisesTest {
         due("canBe: too little room", x.canBe(1, 9), false);
         due("canBe: a clue", x.canBe(0, 3), false);
         due("canBe changes nothing", state(x), before);
+        x.fill(1, 3);
+        due("canBe: a filled cell", x.canBe(1, 3), false);
+        due("canBe: to the full with a filled cell", x.canBe(2, 3), true);
+        x.fill(3, 3);
+        due("canBe: too large a field with filled cells", x.canBe(2, 3), false);
         FieldFiller corner = board(3, 3, 0, 2, 1, 1);
         due("canBe: shuts a field in", corner.canBe(3, 5), false);
         due("canBe: grows the field", corner.canBe(3, 2), true);
@@ -507,6 +522,12 @@ final class PromisesTest {
         x.clue(1, 1);
         due("isHidden: behind another field", x.isHidden(2), true);
         due("isHidden: beside it", x.isHidden(5), false);
+        x.fill(5, 2);
+        x.fill(6, 2);
+        due("isHidden: a filled cell", x.isHidden(5), false);
+        x.fill(4, 3);
+        due("isHidden: no more steps of a larger field", x.isHidden(9), true);
+        due("isHidden: one step of a larger field", x.isHidden(8), false);
         FieldFiller full = board(2, 2, 0, 1);
         due("isHidden beside a full field", full.isHidden(1), true);
         // A row goes over empty cells alone: the field of the cell 0 comes to 3 over another field of 6 alone.
@@ -527,6 +548,7 @@ final class PromisesTest {
         x.fill(1, 3);
         x.fill(2, 3);
         due("shapes of a full field", x.shapes(2), 1);
+        due("shapes with a filled cell", shapesWithFilledCell(), 3);
         due("shapes over two fields", board(4, 2, 0, 4, 1, 4, 7, 4).shapes(0), 2);
         due("shapes of 1", board(2, 2, 0, 1).shapes(0), 1);
         due("shapes of the whole board", board(3, 3, 4, 9).shapes(4), 1);
@@ -536,6 +558,12 @@ final class PromisesTest {
         for (int cell : NO_CELLS) {
             refuses("shapes(" + cell + ")", x, NO_CELL, () -> x.shapes(cell));
         }
+    }
+
+    private static int shapesWithFilledCell() {
+        FieldFiller x = board(3, 3, 0, 3);
+        x.fill(1, 3);
+        return x.shapes(0);
     }
 
     // Promise 17
