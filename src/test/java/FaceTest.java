@@ -136,18 +136,31 @@ final class FaceTest {
         }
     }
 
-    /** The dearest calls, 512 of each, must stay far below the room that all calls of a run live in. */
+    /**
+     * New objects, and 40 rounds of the dearest calls on each (an object is used for at most 512
+     * calls): what they take must stay far below the room that all calls of a run live in.
+     */
     private static void memory() {
         ThreadMXBean threads = (ThreadMXBean) ManagementFactory.getThreadMXBean();
-        FieldFiller x = new FieldFiller();
-        x.lay(3, 4);
-        callAll(x, 1);
-        long before = threads.getCurrentThreadAllocatedBytes();
-        for (int i = 0; i < 512; i++) {
-            callAll(x, i);
+        FieldFiller[] objects = new FieldFiller[13];
+        // Once before it counts: what the machine itself makes at the first call is not the class's.
+        FieldFiller first = new FieldFiller();
+        first.lay(3, 4);
+        callAll(first, 1);
+        long start = threads.getCurrentThreadAllocatedBytes();
+        for (int i = 0; i < objects.length; i++) {
+            objects[i] = new FieldFiller();
         }
-        long bytes = threads.getCurrentThreadAllocatedBytes() - before;
-        CHECK.same("512 rounds take " + bytes + " bytes, which is little", bytes < 512 * 200, true);
+        long made = threads.getCurrentThreadAllocatedBytes();
+        for (int i = 0; i < objects.length; i++) {
+            objects[i].lay(3, 4);
+            for (int round = 0; round < 40; round++) {
+                callAll(objects[i], 40 * i + round);
+            }
+        }
+        long called = threads.getCurrentThreadAllocatedBytes();
+        CHECK.same("13 objects take " + (made - start) + " bytes, which is little", made - start < 13 * 1000, true);
+        CHECK.same("520 rounds take " + (called - made) + " bytes, which is little", called - made < 520 * 200, true);
     }
 
     private static void callAll(FieldFiller x, int i) {

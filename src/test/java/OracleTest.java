@@ -27,6 +27,7 @@ final class OracleTest {
         CHECK.end();
     }
 
+    /** One call for lay and 500 more: an object is used for at most 512. */
     private void randomCalls(int seed) {
         if (seed % 3 != 0) {
             lay(2 + random.nextInt(3), 2 + random.nextInt(3));
@@ -155,7 +156,7 @@ final class OracleTest {
     }
 
     private void look(int cell, int number, int other) {
-        switch (random.nextInt(10)) {
+        switch (random.nextInt(11)) {
             case 0:
                 both("filled()", filler::filled, plain::filled);
                 break;
@@ -183,9 +184,11 @@ final class OracleTest {
             case 8:
                 both("isSolved()", filler::isSolved, plain::isSolved);
                 break;
-            default:
+            case 9:
                 both("canBe(" + cell + ", " + number + ")",
                         () -> filler.canBe(cell, number), () -> plain.canBe(cell, number));
+                break;
+            default:
                 both("shapesWith(" + cell + ", " + other + ")",
                         () -> filler.shapesWith(cell, other), () -> plain.shapesWith(cell, other));
         }

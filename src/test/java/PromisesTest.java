@@ -7,6 +7,11 @@ final class PromisesTest {
     private static final int[] NO_CELLS = {-1, 9, 12, 31, 32, 64, Integer.MIN_VALUE, Integer.MAX_VALUE};
     private static final int[] NO_NUMBERS = {0, -1, 10, Integer.MIN_VALUE, Integer.MAX_VALUE};
 
+    /** A call that is tried with one argument after another. */
+    interface CallWith {
+        Object answer(int argument);
+    }
+
     public static void main(String[] args) {
         newObject();
         lay();
@@ -46,11 +51,22 @@ final class PromisesTest {
         due(what + " changes nothing", state(x), before);
     }
 
-    /** Everything that the calls tell of an object that they do not change. */
+    /** Checks that a call throws with each of the arguments, and that nothing is changed by all of them. */
+    private static void refusesEach(String what, FieldFiller x, Class<? extends RuntimeException> due,
+            int[] arguments, CallWith call) {
+        String before = state(x);
+        for (int argument : arguments) {
+            CHECK.refuses(what + ", with " + argument, due, () -> call.answer(argument));
+        }
+        due(what + " changes nothing", state(x), before);
+    }
+
+    /** Everything that the calls tell of an object that they do not change: 57 calls for 9 cells. */
     private static String state(FieldFiller x) {
+        int area = x.area();
         StringBuilder text = new StringBuilder();
-        text.append(x.area()).append(' ').append(x.filled()).append(' ').append(x.isSolved()).append(' ');
-        for (int cell = 0; cell < x.area(); cell++) {
+        text.append(area).append(' ').append(x.filled()).append(' ').append(x.isSolved()).append(' ');
+        for (int cell = 0; cell < area; cell++) {
             text.append(x.at(cell)).append(x.isClue(cell) ? "c" : "").append(x.isHidden(cell) ? "h" : "");
             text.append(x.size(cell)).append('/').append(x.room(cell)).append('/').append(x.shapes(cell)).append(' ');
         }
@@ -108,19 +124,23 @@ final class PromisesTest {
                 }
             }
         }
+        layWrong();
         FieldFiller y = board(3, 3, 0, 3);
         y.fill(1, 3);
-        int[] wrong = {1, 5, 0, -1, -3, Integer.MIN_VALUE, Integer.MAX_VALUE, 65536};
-        for (int length : wrong) {
-            refuses("lay(" + length + ", 3)", y, BAD, () -> y.lay(length, 3));
-            refuses("lay(3, " + length + ")", y, BAD, () -> y.lay(3, length));
-            refuses("lay twice " + length, y, BAD, () -> y.lay(length, length));
-        }
         refuses("lay(4, 4)", y, BAD, () -> y.lay(4, 4));
         due("lay the same again", y.lay(3, 3), 9);
         due("lay empties", state(y), state(new FieldFiller()));
         refuses("lay empties the log", y, REFUSED, y::undo);
         layTellsNeighbours();
+    }
+
+    private static void layWrong() {
+        FieldFiller x = board(3, 3, 0, 3);
+        x.fill(1, 3);
+        int[] wrong = {1, 5, 0, -1, -3, Integer.MIN_VALUE, Integer.MAX_VALUE, 65536};
+        refusesEach("lay of wrong rows", x, BAD, wrong, length -> x.lay(length, 3));
+        refusesEach("lay of wrong columns", x, BAD, wrong, length -> x.lay(3, length));
+        refusesEach("lay of wrong rows and columns", x, BAD, wrong, length -> x.lay(length, length));
     }
 
     private static void layTellsNeighbours() {
@@ -147,17 +167,7 @@ final class PromisesTest {
         due("clue taken away where none is", x.clue(0, 0), 0);
         due("clue of the same number", board(3, 3, 4, 5).clue(4, 5), 5);
         due("clue taken away leaves it empty", numbers(x), "000000000");
-        FieldFiller y = board(3, 3, 0, 1, 8, 5);
-        y.fill(1, 2);
-        for (int cell : NO_CELLS) {
-            refuses("clue in cell " + cell, y, NO_CELL, () -> y.clue(cell, 1));
-            refuses("clue in cell " + cell + " before number", y, NO_CELL, () -> y.clue(cell, 10));
-            refuses("clue away in cell " + cell, y, NO_CELL, () -> y.clue(cell, 0));
-        }
-        for (int number : new int[] {-1, 10, Integer.MIN_VALUE, Integer.MAX_VALUE}) {
-            refuses("clue of " + number, y, BAD, () -> y.clue(0, number));
-        }
-        refuses("clue: too large a field", y, REFUSED, () -> y.clue(1, 1));
+        clueWrong();
         FieldFiller pair = board(3, 3, 0, 2, 1, 2, 2, 3);
         refuses("clue: too large a field in place of a clue", pair, REFUSED, () -> pair.clue(2, 2));
         FieldFiller z = board(2, 2);
@@ -169,6 +179,19 @@ final class PromisesTest {
         FieldFiller corner = board(3, 3, 0, 2, 1, 1);
         refuses("clue: shuts a field in", corner, REFUSED, () -> corner.clue(3, 3));
         due("clue: may grow the field", corner.clue(3, 2), 0);
+    }
+
+    private static void clueWrong() {
+        FieldFiller x = board(3, 3, 0, 1, 8, 5);
+        x.fill(1, 2);
+        refusesEach("clue in no cell", x, NO_CELL, NO_CELLS, cell -> x.clue(cell, 1));
+        refusesEach("clue in no cell before number", x, NO_CELL, NO_CELLS, cell -> x.clue(cell, 10));
+        refusesEach("clue away in no cell", x, NO_CELL, NO_CELLS, cell -> x.clue(cell, 0));
+        FieldFiller y = board(3, 3, 0, 1, 8, 5);
+        y.fill(1, 2);
+        int[] noNumbers = {-1, 10, Integer.MIN_VALUE, Integer.MAX_VALUE};
+        refusesEach("clue of no number", y, BAD, noNumbers, number -> y.clue(0, number));
+        refuses("clue: too large a field", y, REFUSED, () -> y.clue(1, 1));
     }
 
     private static void clueEmptiesWhatWasFilledIn() {
@@ -196,9 +219,7 @@ final class PromisesTest {
     private static void make() {
         FieldFiller x = board(3, 3, 0, 4);
         x.fill(1, 4);
-        for (int seed : new int[] {-1, Integer.MIN_VALUE}) {
-            refuses("make(" + seed + ")", x, BAD, () -> x.make(seed));
-        }
+        refusesEach("make", x, BAD, new int[] {-1, Integer.MIN_VALUE}, x::make);
         due("make(1)", x.make(1), 3);
         due("make: filled", x.filled(), 0);
         due("make: one solution", x.solutions(5), 1);
@@ -266,14 +287,7 @@ final class PromisesTest {
         due("fill sets no clue", x.isClue(1), false);
         due("fill to the full", x.fill(2, 3), 3);
         due("fill joins two fields", twoFieldsJoined(), 5);
-        for (int cell : NO_CELLS) {
-            refuses("fill cell " + cell, x, NO_CELL, () -> x.fill(cell, 1));
-            refuses("fill cell " + cell + " before number", x, NO_CELL, () -> x.fill(cell, 0));
-        }
-        for (int number : NO_NUMBERS) {
-            refuses("fill " + number, x, BAD, () -> x.fill(4, number));
-            refuses("fill " + number + " before state", x, BAD, () -> x.fill(0, number));
-        }
+        fillWrong();
         refuses("fill a clue", x, REFUSED, () -> x.fill(0, 3));
         refuses("fill a filled cell", x, REFUSED, () -> x.fill(8, 2));
         refuses("fill: too large a field", x, REFUSED, () -> x.fill(5, 3));
@@ -283,6 +297,15 @@ final class PromisesTest {
         refuses("fill: shuts a field in", corner, REFUSED, () -> corner.fill(3, 1));
         FieldFiller whole = board(2, 2);
         due("fill whole", whole.fill(0, 4) + whole.fill(1, 4) + whole.fill(2, 4) + whole.fill(3, 4), 10);
+    }
+
+    private static void fillWrong() {
+        FieldFiller x = board(3, 3, 0, 3);
+        x.fill(8, 2);
+        refusesEach("fill no cell", x, NO_CELL, NO_CELLS, cell -> x.fill(cell, 1));
+        refusesEach("fill no cell before number", x, NO_CELL, NO_CELLS, cell -> x.fill(cell, 0));
+        refusesEach("fill no number", x, BAD, NO_NUMBERS, number -> x.fill(4, number));
+        refusesEach("fill no number before state", x, BAD, NO_NUMBERS, number -> x.fill(0, number));
     }
 
     private static int twoFieldsJoined() {
@@ -384,9 +407,7 @@ final class PromisesTest {
 
     private static void runWrong() {
         FieldFiller x = board(2, 2, 0, 4);
-        for (int rule : new int[] {-1, 3, 4, Integer.MIN_VALUE, Integer.MAX_VALUE}) {
-            refuses("run(" + rule + ")", x, BAD, () -> x.run(rule));
-        }
+        refusesEach("run of no rule", x, BAD, new int[] {-1, 3, 4, Integer.MIN_VALUE, Integer.MAX_VALUE}, x::run);
     }
 
     // Promise 8
@@ -423,9 +444,7 @@ final class PromisesTest {
         for (int number = 1; number <= 9; number++) {
             due("at " + number, board(3, 3, 4, number).at(4), number);
         }
-        for (int cell : NO_CELLS) {
-            refuses("at(" + cell + ")", x, NO_CELL, () -> x.at(cell));
-        }
+        refusesEach("at no cell", x, NO_CELL, NO_CELLS, x::at);
         FieldFiller small = board(2, 2);
         refuses("at(4) of 4 cells", small, NO_CELL, () -> small.at(4));
         due("at(11) of 12 cells", board(4, 3).at(11), 0);
@@ -440,9 +459,7 @@ final class PromisesTest {
         due("isClue of an empty cell", x.isClue(4), false);
         x.clue(0, 0);
         due("isClue of a clue taken away", x.isClue(0), false);
-        for (int cell : NO_CELLS) {
-            refuses("isClue(" + cell + ")", x, NO_CELL, () -> x.isClue(cell));
-        }
+        refusesEach("isClue no cell", x, NO_CELL, NO_CELLS, x::isClue);
     }
 
     // Promise 12
@@ -456,9 +473,7 @@ final class PromisesTest {
         x.fill(2, 4);
         due("size with a filled cell", x.size(0), 3);
         due("size of a filled cell", x.size(2), 3);
-        for (int cell : NO_CELLS) {
-            refuses("size(" + cell + ")", x, NO_CELL, () -> x.size(cell));
-        }
+        refusesEach("size no cell", x, NO_CELL, NO_CELLS, x::size);
     }
 
     // Promise 13
@@ -477,9 +492,7 @@ final class PromisesTest {
         x.fill(5, 1);
         due("room beside a filled cell", x.room(7), 4);
         due("room of a filled cell", x.room(5), 3);
-        for (int cell : NO_CELLS) {
-            refuses("room(" + cell + ")", x, NO_CELL, () -> x.room(cell));
-        }
+        refusesEach("room no cell", x, NO_CELL, NO_CELLS, x::room);
     }
 
     // Promise 14
@@ -500,14 +513,15 @@ final class PromisesTest {
         FieldFiller corner = board(3, 3, 0, 2, 1, 1);
         due("canBe: shuts a field in", corner.canBe(3, 5), false);
         due("canBe: grows the field", corner.canBe(3, 2), true);
-        for (int cell : NO_CELLS) {
-            refuses("canBe cell " + cell, x, NO_CELL, () -> x.canBe(cell, 1));
-            refuses("canBe cell " + cell + " before number", x, NO_CELL, () -> x.canBe(cell, 10));
-        }
-        for (int number : NO_NUMBERS) {
-            refuses("canBe " + number, x, BAD, () -> x.canBe(1, number));
-            refuses("canBe " + number + " in a clue", x, BAD, () -> x.canBe(0, number));
-        }
+        canBeWrong();
+    }
+
+    private static void canBeWrong() {
+        FieldFiller x = board(3, 3, 0, 3, 8, 1);
+        refusesEach("canBe in no cell", x, NO_CELL, NO_CELLS, cell -> x.canBe(cell, 1));
+        refusesEach("canBe in no cell before number", x, NO_CELL, NO_CELLS, cell -> x.canBe(cell, 10));
+        refusesEach("canBe no number", x, BAD, NO_NUMBERS, number -> x.canBe(1, number));
+        refusesEach("canBe no number in a clue", x, BAD, NO_NUMBERS, number -> x.canBe(0, number));
     }
 
     // Promise 15
@@ -534,10 +548,8 @@ final class PromisesTest {
         FieldFiller row = board(3, 4, 2, 1, 0, 6, 5, 6, 6, 6, 10, 6, 9, 6, 8, 6);
         due("isHidden: not over another field of the number", row.isHidden(3), true);
         due("isHidden: beside that field", row.isHidden(7), false);
-        for (int cell : NO_CELLS) {
-            FieldFiller nine = board(3, 3);
-            refuses("isHidden(" + cell + ")", nine, NO_CELL, () -> nine.isHidden(cell));
-        }
+        FieldFiller nine = board(3, 3);
+        refusesEach("isHidden no cell", nine, NO_CELL, NO_CELLS, nine::isHidden);
     }
 
     // Promise 16
@@ -555,9 +567,7 @@ final class PromisesTest {
         due("shapes beside the number", board(2, 4, 0, 2, 2, 2).shapes(0), 1);
         // Each way to grow the field 0 would lie beside the field 3 without it.
         due("no shape", board(2, 4, 0, 2, 5, 2).shapes(0), 0);
-        for (int cell : NO_CELLS) {
-            refuses("shapes(" + cell + ")", x, NO_CELL, () -> x.shapes(cell));
-        }
+        refusesEach("shapes no cell", x, NO_CELL, NO_CELLS, x::shapes);
     }
 
     private static int shapesWithFilledCell() {
@@ -575,11 +585,9 @@ final class PromisesTest {
         due("shapesWith itself", x.shapesWith(0, 0), 5);
         due("shapesWith of an empty cell", x.shapesWith(1, 0), 0);
         due("shapesWith after another field", x.shapesWith(0, 4), 2);
-        for (int cell : NO_CELLS) {
-            refuses("shapesWith(" + cell + ", 0)", x, NO_CELL, () -> x.shapesWith(cell, 0));
-            refuses("shapesWith(0, " + cell + ")", x, NO_CELL, () -> x.shapesWith(0, cell));
-            refuses("shapesWith(1, " + cell + ")", x, NO_CELL, () -> x.shapesWith(1, cell));
-        }
+        refusesEach("shapesWith of no cell", x, NO_CELL, NO_CELLS, cell -> x.shapesWith(cell, 0));
+        refusesEach("shapesWith no other cell", x, NO_CELL, NO_CELLS, cell -> x.shapesWith(0, cell));
+        refusesEach("shapesWith no other cell, of an empty one", x, NO_CELL, NO_CELLS, cell -> x.shapesWith(1, cell));
     }
 
     // Promise 18
@@ -615,8 +623,7 @@ final class PromisesTest {
         due("solutions with what is filled in", y.solutions(5), 3);
         due("solutions, at most 2", y.solutions(2), 2);
         due("solutions, just 3", y.solutions(3), 3);
-        for (int most : new int[] {0, 6, -1, Integer.MIN_VALUE, Integer.MAX_VALUE}) {
-            refuses("solutions(" + most + ")", y, BAD, () -> y.solutions(most));
-        }
+        int[] noMosts = {0, 6, -1, Integer.MIN_VALUE, Integer.MAX_VALUE};
+        refusesEach("solutions, wrong most", y, BAD, noMosts, y::solutions);
     }
 }
